@@ -14,6 +14,9 @@ final class ModelTest {
         for (int run = 0; run < RUNS; run++) {
             test.run(run);
         }
+        test.fullTables(1);
+        test.fullTables(40);
+        test.fullTables(2000);
         test.due.end();
     }
 
@@ -41,6 +44,23 @@ final class ModelTest {
         }
         for (int calls = rows + 3; calls < CALLS; calls++) {
             oneCall(name, bench, model, keys);
+        }
+    }
+
+    /** 500 rows on either side, which no run of 512 calls has: it must not throw all the same. */
+    private void fullTables(int keys) {
+        JoinBench bench = new JoinBench();
+        Model model = new Model();
+        for (int i = 0; i < 1000; i++) {
+            int key = next(keys);
+            due.is("full: row", bench.row(i % 2, key, i), model.row(i % 2, key, i));
+        }
+        int[][] sizes = {{1, 3, 8}, {1, 3, 0}, {1, 20, 8}, {16, 3, 8}, {16, 20, 8}, {3, 7, 1}};
+        for (int[] size : sizes) {
+            for (int what = 0; what < 3; what++) {
+                due.is("full: size", bench.size(what, size[what]), model.size(what, size[what]));
+            }
+            joinAndCompare("full: ", bench, model);
         }
     }
 

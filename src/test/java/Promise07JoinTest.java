@@ -60,6 +60,7 @@ final class Promise07JoinTest {
         due.is("told(10) stays", bench.told(10), 4);
         due.is("event(3, 4) stays", bench.event(3, 4), 8);
         due.is("event(0, 2) stays", bench.event(0, 2), 3);
+        due.is("pair(0, 4) stays", bench.pair(0, 4), 20);
         due.is("pair(1, 0) stays", bench.pair(1, 0), 0);
         due.is("pair(1, 1) stays", bench.pair(1, 1), 2);
         due.is("pair(1, 2) stays", bench.pair(1, 2), 1);

@@ -12,6 +12,8 @@ final class Promise09ToldTest {
         memoryIsOfTheLesserOne(due);
         memoryOfAllButTheRows(due);
         blocksOfOneKey(due);
+        theMostIsNotTheLast(due);
+        pagesNotRowsAreWritten(due);
         morePairsThanThereMayBe(due);
         moreEventsThanAreTold(due);
         due.end();
@@ -55,6 +57,38 @@ final class Promise09ToldTest {
         Due.sameKey(bench, 1, 5, 9);
         bench.join();
         told(due, "10 and 5 pages", bench, 5 + 3 * 10, 0, 4, 0, 0, 1, 0, 0, 1, 0, 180);
+    }
+
+    /**
+     * With 2 parts keys 5, 7, 8 go to part 0 at level 0 and together to part 1 at level 1; keys
+     * 1, 2 go to part 1, then to part 0. With 3 parts keys 0, 4, 7 go to parts 0, 2, 1.
+     */
+    private static void theMostIsNotTheLast(Due due) {
+        JoinBench bench = Due.bench(1, 3, 2);
+        Due.rows(bench, 0, 0, 5, 7, 8, 1, 2);
+        Due.rows(bench, 1, 0, 5, 7, 8, 1, 2);
+        bench.join();
+        told(due, "disk: 10, 16, 8", bench, 10 + 6 + 12 + 4 + 6, 20, 3, 16, 2, 7, 2, 0, 2, 3, 5);
+        bench.cut(0, 5);
+        bench.cut(1, 5);
+        Due.rows(bench, 0, 0, 5, 7, 1);
+        Due.rows(bench, 1, 0, 5, 7, 1);
+        bench.join();
+        told(due, "levels: 2, then 1", bench, 6 + 4 + 6 + 2, 10, 3, 10, 2, 5, 1, 1, 1, 2, 3);
+        JoinBench wider = Due.bench(1, 4, 2);
+        Due.rows(wider, 0, 0, 0, 4, 7);
+        Due.rows(wider, 1, 0, 0, 4, 7);
+        wider.join();
+        told(due, "memory: 4, then 3", wider, 6 + 3 * 2, 6, 4, 6, 1, 4, 0, 3, 0, 1, 3);
+    }
+
+    /** Key 0 goes to part 0, keys 1, 2, 3 to part 1: 1 and 2 pages of what was 2. */
+    private static void pagesNotRowsAreWritten(Due due) {
+        JoinBench bench = Due.bench(2, 3, 1);
+        Due.rows(bench, 0, 0, 0, 1, 2, 3);
+        Due.rows(bench, 1, 0, 0, 1, 2, 3);
+        bench.join();
+        told(due, "2 and 2 pages", bench, 4 + 2 + 6, 6, 3, 6, 1, 3, 0, 1, 1, 1, 4);
     }
 
     private static void morePairsThanThereMayBe(Due due) {

@@ -13,6 +13,7 @@ final class Promise10EventTest {
         }
         wrongInputs(due, bench);
         nothingHasTheRowsOfTheOther(due);
+        oneKeyIsThatOfBoth(due);
         onlySomeAreTold(due);
         due.end();
     }
@@ -36,6 +37,21 @@ final class Promise10EventTest {
         for (int what = 0; what < 5; what++) {
             due.is("no LEFT rows: event(0, " + what + ")", bench.event(0, what), want[what]);
         }
+    }
+
+    private static void oneKeyIsThatOfBoth(Due due) {
+        due.is("LEFT 1, 1; RIGHT 1, 1", kindOf(1, 1, 1, 1), 2);
+        due.is("LEFT 1, 2; RIGHT 1, 1", kindOf(1, 2, 1, 1), 3);
+        due.is("LEFT 1, 1; RIGHT 1, 2", kindOf(1, 1, 1, 2), 3);
+        due.is("LEFT 1, 1; RIGHT 2, 2", kindOf(1, 1, 2, 2), 3);
+    }
+
+    private static int kindOf(int left, int leftToo, int right, int rightToo) {
+        JoinBench bench = Due.bench(1, 3, 1);
+        Due.rows(bench, 0, 0, left, leftToo);
+        Due.rows(bench, 1, 0, right, rightToo);
+        bench.join();
+        return bench.event(0, 0);
     }
 
     private static void onlySomeAreTold(Due due) {
