@@ -2,6 +2,8 @@ import java.io.IOException;
 import java.io.UncheckedIOException;
 import java.nio.file.Files;
 import java.nio.file.Path;
+import java.util.ArrayList;
+import java.util.List;
 
 /** The document, so that a test that names a sentence names one that stands in it. */
 final class Doc {
@@ -19,11 +21,27 @@ final class Doc {
 
     /** Whether the words stand under the heading that begins so, before the next one. */
     boolean says(String heading, String words) {
+        return under(heading).contains(words);
+    }
+
+    /** The lines of the class as the document writes it out, without the parameters' names. */
+    List<String> face() {
+        List<String> lines = new ArrayList<>();
+        for (String line : under("The public face").split("\n")) {
+            String member = line.trim();
+            if (member.startsWith("public ")) {
+                lines.add(member.replaceAll("(int) \\w+(?=[,)])", "$1"));
+            }
+        }
+        return lines;
+    }
+
+    private String under(String heading) {
         int from = text.indexOf("\n## " + heading);
         if (from < 0) {
-            return false;
+            return "";
         }
         int next = text.indexOf("\n## ", from + 1);
-        return text.substring(from, next < 0 ? text.length() : next).contains(words);
+        return text.substring(from, next < 0 ? text.length() : next);
     }
 }
